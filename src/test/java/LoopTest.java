@@ -85,6 +85,9 @@ final class LoopTest {
         due("input outside ahead of full", x.input(1001, 0), -2);
         due("act outside ahead of full", x.act(1, 0, 0, 0, 4), -2);
         due("told(0), full", x.told(0), 8);
+        due("the last value of the last input", x.plain(6, 60), 360);
+        due("the last value of the last act", x.plain(7, 60), 0);
+        due("the last act's second operand", x.about(7, 4), 0);
         due("plan stays at refusals", x.told(4), 4);
     }
 

@@ -154,6 +154,22 @@ final class PlanTest {
         x.lay(1, 1, 9);
         x.lay(2, 2, 30);
         due("a ring on itself asks two beats", x.lacks(), 43);
+        x.clear();
+        x.act(1, 1, 0, 1, 1);
+        x.act(1, 0, 3, 0, 3);
+        x.plan(4);
+        x.lay(1, 1, 3);
+        x.lay(0, 0, 5);
+        due("just in time, the first act", x.lacks(), 0);
+        x.lay(0, 0, 4);
+        due("the first operand of the first act", x.lacks(), 40);
+        x.clear();
+        x.act(1, 1, 1, 1, 0);
+        x.act(1, 0, 3, 0, 3);
+        x.plan(4);
+        x.lay(1, 1, 3);
+        x.lay(0, 0, 4);
+        due("the second operand of the first act", x.lacks(), 41);
     }
 
     private static void lacksOfWays() {
@@ -242,6 +258,23 @@ final class PlanTest {
         due("kept by itself", x.kept(0), 3);
         x.plan(12);
         due("kept by itself", x.kept(0), 3);
+        x.clear();
+        x.act(1, 1, 3, 1, 0);
+        x.input(1, 0);
+        x.plan(2);
+        x.lay(0, 0, 1);
+        due("kept by the first operand of the first act", x.kept(1), 4);
+        x.clear();
+        for (int act = 0; act < 7; act++) {
+            x.input(1, 0);
+        }
+        x.act(1, 0, 0, 6, 1);
+        x.plan(8);
+        for (int act = 0; act < 8; act++) {
+            x.lay(act, 0, act);
+        }
+        due("kept for the last act's first operand", x.kept(0), 1);
+        due("kept for the last act's second operand", x.kept(6), 2);
     }
 
     private static void keptRefusals() {

@@ -11,6 +11,7 @@ final class SearchTest {
         triesOnCellsThatCan();
         leastStarts();
         beatsFromTheBound();
+        theLastBeat();
         findRefusals();
         findNone();
         lastTryThatCounts();
@@ -207,6 +208,26 @@ final class SearchTest {
         due("a way each way is too long for one beat", x.find(), 2);
         due("tries of beat 1 and of beat 2", x.tries(), 6 + 3);
         laidAs(x, new int[][] {{0, 2}, {0, 1}});
+    }
+
+    /** A ring of four sums and four products that leaves no beat to spare on one cell. */
+    private static void theLastBeat() {
+        LoopBoard x = new LoopBoard();
+        Model model = new Model();
+        x.board(1, 1);
+        model.board(1, 1);
+        for (int act = 0; act < 8; act++) {
+            int kind = act < 4 ? 1 : 3;
+            int distance = act == 0 ? 1 : 0;
+            x.act(kind, (act + 7) % 8, distance, (act + 7) % 8, distance);
+            model.act(kind, (act + 7) % 8, distance, (act + 7) % 8, distance);
+        }
+        due("rings", x.bound(1), 12);
+        due("find", x.find(), 12);
+        laidAs(x, new int[][] {{0, 0}, {0, 1}, {0, 2}, {0, 3}, {0, 4}, {0, 6}, {0, 8}, {0, 10}});
+        due("find of the model", model.find(), 12);
+        due("tries", x.tries(), model.tries());
+        due("good", x.lacks(), 0);
     }
 
     private static void findRefusals() {

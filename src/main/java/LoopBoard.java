@@ -477,12 +477,12 @@ public final class LoopBoard {
 
         /** Orders the acts as far as can be; a ring of DISTANCE 0 or an act not there leaves some out. */
         private void arrange() {
-            for (int act = 0; act < count; act++) {
+            for (int act = 0; act < count && act < MOST_ACTS; act++) {
                 isOrdered[act] = false;
             }
             ordered = 0;
             for (int pass = 0; pass < count; pass++) {
-                for (int act = 0; act < count; act++) {
+                for (int act = 0; act < count && act < MOST_ACTS; act++) {
                     boolean isNext = !isOrdered[act] && canFollow(2 * act) && canFollow(2 * act + 1);
                     if (isNext && ordered < MOST_ACTS) {
                         isOrdered[act] = true;
@@ -504,7 +504,7 @@ public final class LoopBoard {
 
         int products() {
             int found = 0;
-            for (int act = 0; act < count; act++) {
+            for (int act = 0; act < count && act < MOST_ACTS; act++) {
                 if (kinds[act] == PRODUCT) {
                     found++;
                 }
@@ -534,7 +534,7 @@ public final class LoopBoard {
 
         private boolean delaysGrow(int beat) {
             boolean grew = false;
-            for (int slot = 0; slot < 2 * count; slot++) {
+            for (int slot = 0; slot < 2 * count && slot < MOST_SLOTS; slot++) {
                 int act = slot / 2;
                 int source = sourceOf(slot);
                 if (isThere(source)) {
